@@ -269,8 +269,8 @@ public final class RegionMap {
         }
         int before = pageBackings[page - 1];
         int here = pageBackings[page];
-        if (before == 0 || here == 0) {
-            return before == here;
+        if (before == 0 && here == 0) {
+            return true;
         }
         return here == before + 1 && here / OBJECT_SIZE == before / OBJECT_SIZE;
     }

@@ -20,6 +20,10 @@ final class Check {
         due("the map " + when, picture(map), want);
     }
 
+    boolean sawWrong() {
+        return wrong != 0;
+    }
+
     void end() {
         if (wrong != 0) {
             System.out.println(wrong + " wrong");
