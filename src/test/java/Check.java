@@ -1,23 +1,39 @@
-/** What the tests of the project share: comparing answers and maps, and the exit code. */
+/** What the tests of the project share: comparing answers, naming what is broken, and the exit code. */
 final class Check {
+    // A program broken at its root would fill the log, and say no more with it.
+    private static final int MOST_LINES = 50;
+
+    private final String heading;
+    private String sentence = "";
     private int wrong = 0;
+
+    /** The heading of the document, or other name, under which the sentences stand. */
+    Check(String heading) {
+        this.heading = heading;
+    }
+
+    /** The words of the document that the checks after this hold to; a wrong answer names them. */
+    void sentence(String words) {
+        sentence = ": \"" + words + "\"";
+    }
 
     void due(String call, int got, int want) {
         if (got != want) {
-            wrong++;
-            System.out.println(call + " answered " + got + ", due is " + want);
+            wrong(call + " answered " + got + ", due is " + want);
         }
     }
 
     void due(String what, String got, String want) {
         if (!got.equals(want)) {
-            wrong++;
-            System.out.println(what + " is [" + got + "], due is [" + want + "]");
+            wrong(what + " is [" + got + "], due is [" + want + "]");
         }
     }
 
-    void map(String when, RegionMap map, String want) {
-        due("the map " + when, picture(map), want);
+    void wrong(String what) {
+        wrong++;
+        if (wrong <= MOST_LINES) {
+            System.out.println(heading + sentence + ": " + what);
+        }
     }
 
     boolean sawWrong() {
@@ -30,37 +46,5 @@ final class Check {
             System.exit(1);
         }
         System.out.println("all as due");
-    }
-
-    /**
-     * The map as the runs "start+len:prot:backing", joined where the document lets them continue.
-     * It is read page by page, so that it does not lean on the region calls of the class.
-     */
-    static String picture(RegionMap map) {
-        StringBuilder runs = new StringBuilder();
-        int page = 0;
-        while (map.protOf(page) != RegionMap.BAD) {
-            int first = page;
-            page++;
-            if (map.protOf(first) == RegionMap.FREE) {
-                continue;
-            }
-            while (continues(map, page)) {
-                page++;
-            }
-            runs.append(runs.length() == 0 ? "" : " ").append(first).append('+').append(page - first)
-                .append(':').append(map.protOf(first)).append(':').append(map.backingOf(first));
-        }
-        return runs.toString();
-    }
-
-    private static boolean continues(RegionMap map, int page) {
-        int before = map.backingOf(page - 1);
-        int here = map.backingOf(page);
-        if (map.protOf(page) < 0 || map.protOf(page) != map.protOf(page - 1)) {
-            return false;
-        }
-        return before == 0 && here == 0
-            || before >= 1024 && here == before + 1 && here % 1024 != 0;
     }
 }

@@ -8,7 +8,7 @@ import java.util.TreeSet;
 /** The public face: just the constants, the constructor and the methods of the document. */
 public final class FaceTest {
     public static void main(String[] args) throws ReflectiveOperationException {
-        Check check = new Check();
+        Check check = new Check("The public face");
         check.due("the class", Modifier.toString(RegionMap.class.getModifiers()), "public final");
         check.due("the nested classes", RegionMap.class.getDeclaredClasses().length, 0);
         constants(check);

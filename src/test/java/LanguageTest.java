@@ -34,7 +34,7 @@ public final class LanguageTest extends TreeScanner<Void, Void> {
         Tree.Kind.IMPORT, Tree.Kind.PACKAGE, Tree.Kind.INTERFACE, Tree.Kind.ENUM, Tree.Kind.RECORD,
         Tree.Kind.ANNOTATION, Tree.Kind.ANNOTATION_TYPE);
 
-    private final Check check = new Check();
+    private final Check check = new Check("LANGUAGE.md");
     private final CompilationUnitTree unit;
     private final Trees trees;
     private final Map<String, Set<String>> calls = new TreeMap<>();

@@ -11,7 +11,7 @@ public final class ModelTest {
     // The same numbers in every run, so that a failure can be seen again.
     private long seed;
     private String where = "";
-    private final Check check = new Check();
+    private final Check check = new Check("The whole document");
     private final int[] carriedOut = new int[8];
     private final int[] refused = new int[8];
 
