@@ -8,10 +8,58 @@ public final class RefusalsTest {
     private static final int NO_ROOM = RegionMap.NO_ROOM;
     private static final int FULL = RegionMap.FULL;
 
+    private interface Call {
+        Space.Answer on(Space space);
+    }
+
+    private record Refused(Call call, int want) { }
+
+    private record Done(Call call, int want, String runs) { }
+
+    /** Each refusal of each call, on the map that limit makes. */
+    private static final Refused[] REFUSED = {
+        new Refused(space -> space.mapNew(5, 12, 0, 0), BAD),
+        new Refused(space -> space.mapNew(3, 4, 1, 0), TAKEN),
+        new Refused(space -> space.mapNew(6, 1, 1, 0), FULL),
+        new Refused(space -> space.mapOver(0, 17, 0, 0), BAD),
+        new Refused(space -> space.mapOver(2, 1, 0, 0), FULL),
+        new Refused(space -> space.mapLow(0, 1, 0, 1), BAD),
+        new Refused(space -> space.mapLow(0, 4, 0, 0), NO_ROOM),
+        new Refused(space -> space.mapLow(0, 3, 0, 0), FULL),
+        new Refused(space -> space.mapHigh(16, 1, 0, 1), BAD),
+        new Refused(space -> space.mapHigh(16, 4, 0, 0), NO_ROOM),
+        new Refused(space -> space.mapHigh(16, 3, 0, 0), FULL),
+        new Refused(space -> space.unmap(0, 0), BAD),
+        new Refused(space -> space.unmap(2, 1), FULL),
+        new Refused(space -> space.protect(0, 5, 8), BAD),
+        new Refused(space -> space.protect(0, 6, 0), HOLE),
+        new Refused(space -> space.protect(0, 4, 0), FULL),
+        new Refused(space -> space.move(0, 5, 12), BAD),
+        new Refused(space -> space.move(0, 6, 8), HOLE),
+        new Refused(space -> space.move(0, 2, 6), FULL),
+        new Refused(space -> space.moveFree(0, 5, 16), BAD),
+        new Refused(space -> space.moveFree(0, 6, 0), HOLE),
+        new Refused(space -> space.moveFree(0, 5, 0), NO_ROOM),
+        new Refused(space -> space.moveFree(1, 3, 0), FULL),
+    };
+
+    /** Each call carried out on the same map, with what it leaves. */
+    private static final Done[] DONE = {
+        new Done(space -> space.mapNew(5, 1, 1, 0), 0, "0+6:1:0 8+8:3:1024"),
+        new Done(space -> space.mapOver(4, 4, 1, 0), 1, "0+8:1:0 8+8:3:1024"),
+        new Done(space -> space.mapLow(0, 2, 1, 0), 5, "0+7:1:0 8+8:3:1024"),
+        new Done(space -> space.mapHigh(16, 3, 1, 0), 5, "0+8:1:0 8+8:3:1024"),
+        new Done(space -> space.unmap(4, 2), 1, "0+4:1:0 8+8:3:1024"),
+        new Done(space -> space.protect(8, 8, 0), 8, "0+5:1:0 8+8:0:1024"),
+        new Done(space -> space.move(0, 5, 1), 0, "1+5:1:0 8+8:3:1024"),
+        new Done(space -> space.moveFree(0, 3, 0), 5, "3+5:1:0 8+8:3:1024"),
+    };
+
     public static void main(String[] args) {
         Check check = new Check("Words used, Refusals");
         firstThatApplies(check);
         changesNothingAtAll(check);
+        nextCallIsAsIfNoneWasRefused(check);
         fullIsTheLast(check);
         onlyTheFinalMap(check);
         exactlyAllRegions(check);
@@ -68,17 +116,11 @@ public final class RefusalsTest {
         check.sentence("and a refused call changes nothing at all.");
         Space space = limit(check);
         for (int round = 0; round < 2; round++) {
-            everyRefusal(space);
-            isLimit(space);
+            for (Refused refused : REFUSED) {
+                refused.call().on(space).gives(refused.want());
+                isLimit(space);
+            }
         }
-        // What comes after is as if none of them had been made.
-        space.mapNew(5, 1, 1, 0).gives(0);
-        space.mapOver(15, 1, 3, 1031).gives(1);
-        space.protect(8, 8, 0).gives(8);
-        space.unmap(12, 4).gives(4);
-        space.move(0, 6, 1).gives(0);
-        space.moveFree(8, 4, 0).gives(12);
-        space.is("1+6:1:0 12+4:0:1024");
         Space empty = new Space(check, 16, 2);
         everyRefusalOfAnEmptyMap(empty);
         empty.is("");
@@ -86,31 +128,17 @@ public final class RefusalsTest {
         empty.longestGap().gives(16);
     }
 
-    /** Each refusal of each call, on the map that limit makes. */
-    private static void everyRefusal(Space space) {
-        space.mapNew(5, 12, 0, 0).gives(BAD);
-        space.mapNew(3, 4, 1, 0).gives(TAKEN);
-        space.mapNew(6, 1, 1, 0).gives(FULL);
-        space.mapOver(0, 17, 0, 0).gives(BAD);
-        space.mapOver(2, 1, 0, 0).gives(FULL);
-        space.mapLow(0, 1, 0, 1).gives(BAD);
-        space.mapLow(0, 4, 0, 0).gives(NO_ROOM);
-        space.mapLow(0, 3, 0, 0).gives(FULL);
-        space.mapHigh(16, 1, 0, 1).gives(BAD);
-        space.mapHigh(16, 4, 0, 0).gives(NO_ROOM);
-        space.mapHigh(16, 3, 0, 0).gives(FULL);
-        space.unmap(0, 0).gives(BAD);
-        space.unmap(2, 1).gives(FULL);
-        space.protect(0, 5, 8).gives(BAD);
-        space.protect(0, 6, 0).gives(HOLE);
-        space.protect(0, 4, 0).gives(FULL);
-        space.move(0, 5, 12).gives(BAD);
-        space.move(0, 6, 8).gives(HOLE);
-        space.move(0, 2, 6).gives(FULL);
-        space.moveFree(0, 5, 16).gives(BAD);
-        space.moveFree(0, 6, 0).gives(HOLE);
-        space.moveFree(0, 5, 0).gives(NO_ROOM);
-        space.moveFree(1, 3, 0).gives(FULL);
+    /** A trace may be hidden until the next change, so each refusal comes before each kind of change. */
+    private static void nextCallIsAsIfNoneWasRefused(Check check) {
+        check.sentence("and a refused call changes nothing at all.");
+        for (Refused refused : REFUSED) {
+            for (Done done : DONE) {
+                Space space = limit(check);
+                refused.call().on(space).gives(refused.want());
+                done.call().on(space).gives(done.want());
+                space.is(done.runs());
+            }
+        }
     }
 
     private static void everyRefusalOfAnEmptyMap(Space space) {

@@ -1,32 +1,5 @@
-/** Words used: the map, continuing, regions, ranges, mapping attributes and filling. */
-public final class WordsTest {
-    private interface RangeCall {
-        Space.Answer on(Space space, int start, int len);
-    }
-
-    private interface FillingCall {
-        Space.Answer on(Space space, int len, int prot, int backing);
-    }
-
-    /** Every call that takes a range, in each place where it takes one. */
-    private static final RangeCall[] RANGE_CALLS = {
-        (space, start, len) -> space.mapNew(start, len, 0, 0),
-        (space, start, len) -> space.mapOver(start, len, 0, 0),
-        Space::unmap,
-        (space, start, len) -> space.protect(start, len, 0),
-        (space, start, len) -> space.move(start, len, 0),
-        (space, start, len) -> space.move(0, len, start),
-        (space, start, len) -> space.moveFree(start, len, 0),
-    };
-
-    /** Every call that fills, each at the first pages of an empty space of 16. */
-    private static final FillingCall[] FILLING_CALLS = {
-        (space, len, prot, backing) -> space.mapNew(0, len, prot, backing),
-        (space, len, prot, backing) -> space.mapOver(0, len, prot, backing),
-        (space, len, prot, backing) -> space.mapLow(0, len, prot, backing),
-        (space, len, prot, backing) -> space.mapHigh(Math.max(1, Math.min(16, len)), len, prot, backing),
-    };
-
+/** Words used: the map, continuing and regions. */
+public final class RegionWordsTest {
     private static final int[] BACKINGS = {
         0, 1024, 1025, 1026, 2046, 2047, 2048, 2049, 3071, 3072, 7167, 7168, 8190, 8191,
     };
@@ -34,26 +7,21 @@ public final class WordsTest {
     public static void main(String[] args) {
         Check check = new Check("Words used");
         pagesOfTheMap(check);
+        freeOrMapped(check);
+        protections(check);
         protectionZero(check);
         backings(check);
         objectOfABacking(check);
+        onlyTheMapChanges(check);
         continuing(check);
         anonymousPages(check);
         pagesOfAnObject(check);
         nextObject(check);
+        longestRun(check);
         firstPageOfARegion(check);
         asTheMapIsNow(check);
         numberedByFirstPage(check);
         neverMoreThanAllowed(check);
-        properRanges(check);
-        hugeRanges(check);
-        properProtections(check);
-        properBackings(check);
-        longestFill(check);
-        neverProperBackings(check);
-        filling(check);
-        whatWasThereIsLost(check);
-        otherPagesStay(check);
         check.end();
     }
 
@@ -67,6 +35,60 @@ public final class WordsTest {
             space.mapNew(pages - 1, 1, 0, 0).gives(0);
             space.is("0+1:0:0 " + (pages - 1) + "+1:0:0");
             space.longestGap().gives(pages - 2);
+        }
+    }
+
+    private static void freeOrMapped(Check check) {
+        check.sentence("At every moment each page is either FREE or MAPPED.");
+        Space space = new Space(check, 16, 8);
+        oneOrTheOther(check, space, 0);
+        space.mapNew(2, 6, 0, 0).gives(0);
+        oneOrTheOther(check, space, 6);
+        space.mapOver(6, 4, 7, 1024).gives(2);
+        oneOrTheOther(check, space, 8);
+        space.mapLow(0, 2, 0, 8190).gives(0);
+        oneOrTheOther(check, space, 10);
+        space.mapHigh(16, 3, 3, 0).gives(13);
+        oneOrTheOther(check, space, 13);
+        space.unmap(4, 3).gives(3);
+        oneOrTheOther(check, space, 10);
+        space.protect(0, 3, 0).gives(0);
+        oneOrTheOther(check, space, 10);
+        space.move(0, 4, 2).gives(0);
+        oneOrTheOther(check, space, 10);
+        space.moveFree(2, 2, 0).gives(0);
+        oneOrTheOther(check, space, 10);
+        space.moveFree(2, 2, 0).gives(RegionMap.HOLE);
+        oneOrTheOther(check, space, 10);
+    }
+
+    private static void oneOrTheOther(Check check, Space space, int want) {
+        int mapped = 0;
+        for (int page = 0; page < 16; page++) {
+            boolean free = space.protOf(page).got() == RegionMap.FREE;
+            boolean freeBacking = space.backingOf(page).got() == RegionMap.FREE;
+            check.due("page " + page + " free for both, " + free, String.valueOf(freeBacking), String.valueOf(free));
+            mapped += free ? 0 : 1;
+        }
+        check.due("the number of mapped pages", mapped, want);
+    }
+
+    private static void protections(Check check) {
+        check.sentence("protection: an int 0 .. 7.");
+        for (int prot = 0; prot <= 7; prot++) {
+            Space space = new Space(check, 16, 8);
+            space.mapNew(0, 1, prot, 0).gives(0);
+            space.mapOver(2, 1, prot, 0).gives(0);
+            space.mapLow(4, 1, prot, 0).gives(4);
+            space.mapHigh(7, 1, prot, 0).gives(6);
+            space.mapNew(8, 1, 7 - prot, 0).gives(0);
+            space.protect(8, 1, prot).gives(1);
+            space.mapNew(10, 1, prot, 0).gives(0);
+            space.move(10, 1, 11).gives(0);
+            space.moveFree(11, 1, 10).gives(10);
+            for (int page = 0; page <= 10; page += 2) {
+                space.protOf(page).gives(prot);
+            }
         }
     }
 
@@ -126,6 +148,38 @@ public final class WordsTest {
         }
     }
 
+    private static void onlyTheMapChanges(Check check) {
+        check.sentence("The map (which pages are free, and the attributes of the mapped ones) is all that changes"
+            + " in an object of this class.");
+        String runs = "2+4:3:1030 8+2:0:0";
+        Space direct = new Space(check, 16, 3, runs);
+        Space roundabout = new Space(check, 16, 3, "0+16:7:8176");
+        roundabout.unmap(5, 1).gives(1);
+        roundabout.protect(0, 5, 2).gives(5);
+        roundabout.mapNew(5, 1, 1, 0).gives(0);
+        roundabout.mapOver(0, 16, 3, 1024).gives(16);
+        roundabout.unmap(0, 6).gives(6);
+        roundabout.unmap(10, 6).gives(6);
+        roundabout.moveFree(6, 4, 0).gives(0);
+        roundabout.move(0, 4, 2).gives(0);
+        roundabout.mapHigh(16, 2, 0, 0).gives(14);
+        roundabout.moveFree(14, 2, 8).gives(8);
+        roundabout.is(runs);
+        for (Space space : new Space[] {direct, roundabout}) {
+            space.longestGap().gives(6);
+            space.regionCount().gives(2);
+            space.findLow(0, 3).gives(10);
+            space.findHigh(16, 2).gives(14);
+            space.mapLow(0, 2, 1, 0).gives(0);
+            space.mapHigh(8, 1, 1, 0).gives(RegionMap.FULL);
+            space.mapHigh(8, 2, 0, 0).gives(6);
+            space.move(1, 2, 15).gives(RegionMap.BAD);
+            space.move(0, 4, 10).gives(RegionMap.FULL);
+            space.move(0, 2, 10).gives(0);
+            space.is("2+4:3:1030 6+4:0:0 10+2:1:0");
+        }
+    }
+
     private static void continuing(Check check) {
         check.sentence("Page p (p >= 1) CONTINUES page p-1 if and only if both are mapped, both have the same"
             + " protection, and one of these holds:");
@@ -178,6 +232,28 @@ public final class WordsTest {
         space.regionStart(1).gives(16);
         space.regionLength(0).gives(16);
         space.regionLength(1).gives(16);
+    }
+
+    private static void longestRun(Check check) {
+        check.sentence("A region is a longest run of consecutive mapped pages in which every page but the first"
+            + " continues the page before it.");
+        for (int start = 0; start < 16; start++) {
+            for (int len = 1; start + len <= 16; len++) {
+                for (int backing : new int[] {0, 1024, 2048 - len}) {
+                    Space space = new Space(check, 16, 2, start + "+" + len + ":3:" + backing);
+                    space.regionCount().gives(1);
+                    space.regionStart(0).gives(start);
+                    space.regionLength(0).gives(len);
+                }
+            }
+        }
+        // Between other pages of the space that do not continue, or are not continued.
+        Space between = new Space(check, 16, 8, "0+5:3:1030 5+6:3:1036 11+5:3:1041");
+        between.regionStart(1).gives(5);
+        between.regionLength(1).gives(6);
+        between.mapOver(5, 6, 3, 1035).gives(6);
+        between.regionCount().gives(1);
+        between.regionLength(0).gives(16);
     }
 
     private static void firstPageOfARegion(Check check) {
@@ -268,184 +344,6 @@ public final class WordsTest {
             space.move(1, 1, 127).gives(RegionMap.FULL);
             space.moveFree(1, 1, 127).gives(RegionMap.FULL);
             space.regionCount().gives(regions);
-        }
-    }
-
-    private static void properRanges(Check check) {
-        check.sentence("It is PROPER if start >= 0, len >= 1 and start + len <= P.");
-        for (int pages : new int[] {16, 17, 256}) {
-            int[][] byOne = {
-                {-1, 1}, {-1, pages + 1}, {0, 0}, {pages - 1, 0}, {0, -1}, {0, pages + 1}, {1, pages}, {pages - 1, 2},
-                {pages, 1},
-            };
-            Space empty = new Space(check, pages, 2);
-            Space full = new Space(check, pages, 2, "0+" + pages + ":0:0");
-            for (RangeCall call : RANGE_CALLS) {
-                for (int[] range : byOne) {
-                    call.on(empty, range[0], range[1]).gives(RegionMap.BAD);
-                    call.on(full, range[0], range[1]).gives(RegionMap.BAD);
-                }
-            }
-            for (int[] range : Edges.properRanges(pages)) {
-                notBad(check, pages, range[0], range[1]);
-            }
-        }
-    }
-
-    private static void notBad(Check check, int pages, int start, int len) {
-        Space empty = new Space(check, pages, 2);
-        empty.protect(start, len, 0).gives(RegionMap.HOLE);
-        empty.move(start, len, 0).gives(RegionMap.HOLE);
-        empty.move(0, len, start).gives(RegionMap.HOLE);
-        empty.moveFree(start, len, 0).gives(RegionMap.HOLE);
-        empty.unmap(start, len).gives(0);
-        empty.mapNew(start, len, 0, 0).gives(0);
-        empty.mapOver(start, len, 0, 0).gives(len);
-        empty.protect(start, len, 0).gives(0);
-        empty.move(start, len, start).gives(0);
-        empty.unmap(start, len).gives(len);
-    }
-
-    private static void hugeRanges(Check check) {
-        check.sentence("The sum is taken as an exact integer without wrap-around, so very large arguments never"
-            + " make a range proper.");
-        for (int pages : new int[] {16, 17, 256}) {
-            Space empty = new Space(check, pages, 2);
-            Space full = new Space(check, pages, 2, "0+" + pages + ":0:0");
-            for (RangeCall call : RANGE_CALLS) {
-                for (int[] range : Edges.improperRanges(pages)) {
-                    call.on(empty, range[0], range[1]).gives(RegionMap.BAD);
-                    call.on(full, range[0], range[1]).gives(RegionMap.BAD);
-                }
-            }
-        }
-    }
-
-    private static void properProtections(Check check) {
-        check.sentence("(len, prot, backing) are PROPER if 0 <= prot <= 7");
-        for (FillingCall call : FILLING_CALLS) {
-            for (int prot : Edges.improperProts()) {
-                call.on(new Space(check, 16, 2), 1, prot, 0).gives(RegionMap.BAD);
-                call.on(new Space(check, 16, 2), 16, prot, 8000).gives(RegionMap.BAD);
-            }
-            for (int prot = 0; prot <= 7; prot++) {
-                call.on(new Space(check, 16, 2), 1, prot, 0).gives(0);
-                call.on(new Space(check, 16, 2), 16, prot, 8000).gives(0);
-            }
-        }
-    }
-
-    private static void properBackings(Check check) {
-        check.sentence("and either backing is 0, or 1024 <= backing <= 8191 and (backing % 1024) + len <= 1024"
-            + " (exact sum, without wrap-around).");
-        for (FillingCall call : FILLING_CALLS) {
-            for (int[] row : Edges.improperBackings()) {
-                call.on(new Space(check, 16, 2), row[0], 0, row[1]).gives(RegionMap.BAD);
-            }
-            for (int[] row : Edges.properBackings()) {
-                call.on(new Space(check, 16, 2), row[0], 0, row[1]).gives(0);
-            }
-            // The length is the one too large already, with and without a sum that wraps around.
-            for (int len : new int[] {17, 1024, 1025, Edges.MOST - 1022, Edges.MOST - 1, Edges.MOST}) {
-                for (int backing : BACKINGS) {
-                    call.on(new Space(check, 16, 2), len, 0, backing).gives(RegionMap.BAD);
-                }
-            }
-        }
-    }
-
-    /** Where an object ends within a fill, for every length; with one page, the next object begins there. */
-    private static void longestFill(Check check) {
-        check.sentence("and either backing is 0, or 1024 <= backing <= 8191 and (backing % 1024) + len <= 1024"
-            + " (exact sum, without wrap-around).");
-        for (int object = 1; object <= 7; object++) {
-            for (int len = 2; len <= 256; len++) {
-                int last = 1024 * object + 1024 - len;
-                Space space = new Space(check, 256, 2);
-                space.mapNew(0, len, 1, last + 1).gives(RegionMap.BAD);
-                space.mapOver(256 - len, len, 1, last + 1).gives(RegionMap.BAD);
-                space.mapLow(0, len, 1, last + 1).gives(RegionMap.BAD);
-                space.mapHigh(256, len, 1, last + 1).gives(RegionMap.BAD);
-                space.mapNew(0, len, 1, last).gives(0);
-                space.backingOf(len - 1).gives(1024 * object + 1023);
-            }
-        }
-    }
-
-    private static void neverProperBackings(Check check) {
-        check.sentence(
-            "So a negative backing, a backing 1 .. 1023, and a backing above 8191 are never proper.");
-        for (FillingCall call : FILLING_CALLS) {
-            Space space = new Space(check, 16, 2);
-            for (int backing = 1; backing <= 1023; backing++) {
-                call.on(space, 1, 0, backing).gives(RegionMap.BAD);
-                call.on(space, 1, 0, -backing).gives(RegionMap.BAD);
-                call.on(space, 1, 0, 8191 + backing).gives(RegionMap.BAD);
-            }
-            for (int thousand = 1; thousand <= 64; thousand++) {
-                call.on(space, 1, 0, -1024 * thousand).gives(RegionMap.BAD);
-                call.on(space, 1, 0, 7168 + 1024 * thousand).gives(RegionMap.BAD);
-            }
-            call.on(space, 1, 0, Edges.LEAST).gives(RegionMap.BAD);
-            call.on(space, 1, 0, Edges.LEAST + 1024).gives(RegionMap.BAD);
-            call.on(space, 1, 0, Edges.MOST).gives(RegionMap.BAD);
-            call.on(space, 1, 0, Edges.MOST - 1023).gives(RegionMap.BAD);
-            space.is("");
-        }
-    }
-
-    private static void filling(Check check) {
-        check.sentence("To FILL a proper range (start, len) with prot and backing means: for each i = 0 .. len-1,"
-            + " page start+i becomes mapped with protection prot and with backing 0 if backing is 0, else"
-            + " backing + i.");
-        for (FillingCall call : FILLING_CALLS) {
-            for (int len : new int[] {1, 2, 15, 16}) {
-                for (int backing : new int[] {0, 1024, 2048 - len, 2048, 8192 - len}) {
-                    Space space = new Space(check, 16, 2);
-                    call.on(space, len, 6, backing).gives(0);
-                    for (int i = 0; i < 16; i++) {
-                        space.protOf(i).gives(i < len ? 6 : RegionMap.FREE);
-                        space.backingOf(i).gives(i >= len ? RegionMap.FREE : backing == 0 ? 0 : backing + i);
-                    }
-                }
-            }
-        }
-    }
-
-    private static void whatWasThereIsLost(Check check) {
-        check.sentence("Whatever the page was before is lost.");
-        Space space = new Space(check, 16, 8, "2+3:7:8189 5+3:1:0 8+2:0:2048");
-        space.mapOver(2, 8, 3, 0).gives(8);
-        space.is("2+8:3:0");
-        space.mapOver(2, 8, 0, 1024).gives(8);
-        space.is("2+8:0:1024");
-        space.mapOver(2, 8, 0, 0).gives(8);
-        space.is("2+8:0:0");
-        // Nothing comes back when the page is freed and mapped again.
-        space.unmap(2, 8).gives(8);
-        space.mapNew(4, 2, 5, 0).gives(0);
-        space.is("4+2:5:0");
-    }
-
-    private static void otherPagesStay(Check check) {
-        check.sentence("All other pages stay as they are.");
-        String runs = "0+5:1:2030 11+5:2:0";
-        for (int start = 5; start < 11; start++) {
-            for (int len = 1; start + len <= 11; len++) {
-                String want = "0+5:1:2030 " + start + "+" + len + ":4:1100 11+5:2:0";
-                Space fresh = new Space(check, 16, 4, runs);
-                fresh.mapNew(start, len, 4, 1100).gives(0);
-                fresh.is(want);
-                Space over = new Space(check, 16, 4, runs);
-                over.mapOver(start, len, 4, 1100).gives(0);
-                over.is(want);
-                Space low = new Space(check, 16, 4, runs);
-                low.mapLow(start, len, 4, 1100).gives(start);
-                low.is(want);
-                Space high = new Space(check, 16, 4, runs);
-                high.mapHigh(start + len, len, 4, 1100).gives(start);
-                high.is(want);
-            }
         }
     }
 }
